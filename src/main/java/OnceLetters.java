@@ -680,12 +680,12 @@ public final class OnceLetters {
             return NONE;
         }
 
+        /** Makes the producer idle; its last marker is written, so none is due any more. */
         void rest() {
             mode = IDLE;
             commit = 0;
             for (int p = 0; p < PARTS; p++) {
                 first[p] = NONE;
-                due[p] = 0;
             }
             for (int i = 0; i < READERS * PARTS; i++) {
                 carried[i] = NONE;
@@ -924,7 +924,6 @@ public final class OnceLetters {
         int findFault() {
             orders = 0;
             inOrder = false;
-            digits = 0;
             for (int i = 0; i < length; i++) {
                 if (!takes(bytes[i])) {
                     return i;

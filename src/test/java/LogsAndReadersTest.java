@@ -7,6 +7,8 @@ public final class LogsAndReadersTest {
         entry();
         part();
         stablePosition();
+        stableOfMany();
+        fullLog();
         aborted();
         abortedOrder();
         reads();
@@ -124,6 +126,66 @@ public final class LogsAndReadersTest {
         x.ticks(1);
         D.due("part(2, 1)", x.part(2, 1), 5);
         D.due("part(2, 2)", x.part(2, 2), 3);
+    }
+
+    private static void stableOfMany() {
+        D.about("promise 11, many transactions");
+        OnceLetters x = new OnceLetters();
+        int[] order = {1, 0, 3, 2};
+        for (int w : order) {
+            x.begins(w);
+            x.opens(w, 0);
+        }
+        for (int w : order) {
+            x.sends(w, 0, 0, 0, w);
+        }
+        for (int w = 0; w < 4; w++) {
+            x.sends(w, 0, 2, 0, w);
+        }
+        for (int i = 0; i < 4; i++) {
+            D.due("part(0, 1)", x.part(0, 1), i);
+            D.due("part(0, 4)", x.part(0, 4), order[i]);
+            D.due("part(0, 3)", x.part(0, 3), 4 - i);
+            D.due("part(2, 4)", x.part(2, 4), i == 3 ? 2 : 0);
+            x.ends(order[i], 0, 1);
+            D.due("part(0, 3) of an ending one", x.part(0, 3), 4 - i);
+            D.due("part(1, 3) of an ending one", x.part(1, 3), 3 - i);
+            x.ticks(1);
+        }
+        D.due("part(0, 4)", x.part(0, 4), NONE);
+        D.due("part(0, 1)", x.part(0, 1), 8);
+    }
+
+    private static void fullLog() {
+        D.about("promises 10 to 15, a full log");
+        OnceLetters x = new OnceLetters();
+        x.begins(0);
+        x.opens(0, 0);
+        for (int n = 0; n < 47; n++) {
+            D.due("sends", x.sends(0, 0, 0, n, n), n);
+        }
+        D.due("no room", x.sends(0, 0, 0, 47, 0), -4);
+        x.ends(0, 0, 1);
+        x.ticks(1);
+        D.due("part(0, 0)", x.part(0, 0), 48);
+        D.due("part(0, 1)", x.part(0, 1), 48);
+        D.due("part(0, 2)", x.part(0, 2), 47);
+        for (int n = 0; n < 47; n++) {
+            D.due("reads", x.reads(1, 0), n);
+        }
+        D.due("reads at the end", x.reads(1, 0), NONE);
+        D.due("reader(1, 0, 0)", x.reader(1, 0, 0), 47);
+        D.due("reader(1, 0, 2)", x.reader(1, 0, 2), 0);
+        D.due("reader(1, 0, 3)", x.reader(1, 0, 3), NONE);
+        D.due("aborted(0, 0, 0)", x.aborted(0, 0, 0), NONE);
+        D.due("entry(0, 48, 6)", x.entry(0, 48, 6), BAD);
+        D.due("writer(0, 6)", x.writer(0, 6), 47);
+        x.begins(0);
+        D.due("no room for 0", x.sends(0, 1, 0, 0, 1), -4);
+        x.opens(0, 1);
+        D.due("part(0, 3)", x.part(0, 3), 1);
+        D.due("no room for 0", x.sends(0, 1, 0, 0, 1), -4);
+        D.due("ends", x.ends(0, 1, 1), 0);
     }
 
     private static void aborted() {

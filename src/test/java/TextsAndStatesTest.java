@@ -1,7 +1,7 @@
 /** Promises 16 to 23: the text, what is told, and states that are restored. */
 public final class TextsAndStatesTest {
     private static final Due D = new Due();
-    private static final int NONE = -1, BAD = -2, STATE = -3, FULL = -4;
+    private static final int NONE = -1, BAD = -2, STATE = -3, FULL = -4, FENCED = -6, GAP = -7;
 
     public static void main(String[] args) {
         type();
@@ -16,6 +16,7 @@ public final class TextsAndStatesTest {
         back();
         backRestoresEverything();
         backAndLogs();
+        backAndEndings();
         backLeavesTextAndCounts();
         told();
         digest();
@@ -144,6 +145,14 @@ public final class TextsAndStatesTest {
         write(x, "t12;");
         D.due("does()", x.does(), 1);
         D.due("all(0)", x.all(0), 13);
+        write(x, "b1;b1;o1 2;c 1 2 0 1;e 01 02 0;o1 1;");
+        D.due("does()", x.does(), 5);
+        D.due("asked()", x.asked(), FENCED);
+        write(x, "s 1 2 1 0 63;s1 02 01 1 9;s1 2 1 3 9;");
+        D.due("does()", x.does(), 2);
+        D.due("asked()", x.asked(), GAP);
+        D.due("entry(1, 0, 4)", x.entry(1, 0, 4), 63);
+        D.due("entry(1, 1, 3)", x.entry(1, 1, 3), 1);
     }
 
     private static void does() {
@@ -376,6 +385,42 @@ public final class TextsAndStatesTest {
         D.due("a plain one in its place", x.sends(0, 0, 0, 0, 8), 0);
         D.due("entry(0, 0, 5)", x.entry(0, 0, 5), 0);
         D.due("reads(0, 0)", x.reads(0, 0), 8);
+    }
+
+    private static void backAndEndings() {
+        D.about("promise 21, endings");
+        OnceLetters x = new OnceLetters();
+        write(x, "b0;b1;b3;s3 0 0 0 5;s3 0 0 1 6;r1 0;t3;o0 0;c0 0 1 0;s0 0 1 0 7;");
+        D.due("does()", x.does(), 10);
+        x.ends(0, 0, 0);
+        D.due("back()", x.back(), 1);
+        x.ends(0, 0, 1);
+        x.ticks(2);
+        D.due("saved", x.reader(1, 0, 1), 1);
+        D.due("back()", x.back(), 2);
+        D.due("not saved again", x.reader(1, 0, 1), 0);
+        D.due("ending by commit again", x.writer(0, 4), 1);
+        x.ticks(2);
+        D.due("saved again", x.reader(1, 0, 1), 1);
+        x.ticks(3);
+        x.opens(0, 0);
+        D.due("writer(0, 5)", x.writer(0, 5), 0);
+        x.back();
+        x.back();
+        x.opens(0, 0);
+        x.ticks(1);
+        x.ends(0, 0, 1);
+        x.ticks(2);
+        x.opens(0, 0);
+        x.back();
+        x.back();
+        x.back();
+        D.due("opened when it was", x.writer(0, 5), 1);
+        x.reads(1, 0);
+        x.carries(0, 0, 1, 0);
+        x.back();
+        D.due("ends(0, 0, 1)", x.ends(0, 0, 1), 0);
+        D.due("carries no longer", x.reader(1, 0, 1), 1);
     }
 
     private static void backLeavesTextAndCounts() {
