@@ -186,6 +186,8 @@ public final class LogsAndReadersTest {
         D.due("part(0, 3)", x.part(0, 3), 1);
         D.due("no room for 0", x.sends(0, 1, 0, 0, 1), -4);
         D.due("ends", x.ends(0, 1, 1), 0);
+        D.due("back() with a full log", x.back(), 5);
+        D.due("part(0, 0)", x.part(0, 0), 48);
     }
 
     private static void aborted() {
@@ -229,6 +231,7 @@ public final class LogsAndReadersTest {
             }
         }
         D.due("aborted(0, 3, 0)", x.aborted(0, 3, 0), NONE);
+        D.due("part(0, 5)", x.part(0, 5), 3);
         x.back();
         D.due("behind back()", x.aborted(0, 0, 0), 1);
         D.due("behind back()", x.aborted(0, 1, 0), NONE);

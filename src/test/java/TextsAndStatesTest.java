@@ -157,6 +157,10 @@ public final class TextsAndStatesTest {
 
     private static void does() {
         D.about("promise 18");
+        OnceLetters y = new OnceLetters();
+        write(y, "b2;b2;o2 1;");
+        D.due("does()", y.does(), 3);
+        D.due("asked()", y.asked(), 1);
         OnceLetters x = new OnceLetters();
         write(x, "b0;b9;t99;s0 0 0 0 5;s0 0 0 0 6;s0 0 0 7 7;b0;o0 0;e0 1 1;r0 1;");
         D.due("does()", x.does(), 4);
