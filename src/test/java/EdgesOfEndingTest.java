@@ -17,6 +17,7 @@ public final class EdgesOfEndingTest {
 
     public static void main(String[] args) {
         becomesEnding();
+        scheduledInEach();
         scheduleOfThree();
         scheduleOfTwo();
         scheduleOfOne();
@@ -52,6 +53,15 @@ public final class EdgesOfEndingTest {
             ends(0, 0, 1) = 1; writer(0, 1) = 2; writer(0, 3) = 1; writer(0, 4) = 1; writer(0, 5) = NONE;
             ends(1, 0, 0) = 1; writer(1, 1) = 2; writer(1, 3) = 1; writer(1, 4) = 0; all(2) = 0; all(3) = 2;
             all(7) = 2; ticks(1) = 2; writer(0, 1) = 0; writer(0, 4) = 0; writer(1, 1) = 0; all(3) = 0; all(7) = 0
+            """);
+    }
+
+    private static void scheduledInEach() {
+        D.says(PLACE, "In each partition in which it takes part a marker is scheduled");
+        D.run("""
+            begins(0) = 0; sends(0, 0, 1, 0, 4) = 0; opens(0, 0) = 1; sends(0, 0, 0, 0, 5) = 0; sends(0, 0, 0, 1, 5) = 1;
+            sends(0, 0, 2, 0, 5) = 0; all(7) = 0; ends(0, 0, 0) = 2; all(7) = 2; writer(0, 3) = 2; // one for a partition
+            ticks(20) = 2; part(0, 0) = 3; part(1, 0) = 1; part(2, 0) = 2; all(5) = 2; all(7) = 0
             """);
     }
 
@@ -184,10 +194,18 @@ public final class EdgesOfEndingTest {
             opens(0, 0) = 1; ends(0, 0, 1) = 0; reader(0, 1, 1) = 2; // not 1 again
             opens(1, 0) = 1; carries(1, 0, 0, 1) = 2; ends(1, 0, 0) = 0; rewinds(0) = 0
             """);
-        D.run("""
-            begins(0) = 0; sends(0, 0, 1, 0, 7) = 0; reads(0, 1) = 7; opens(0, 0) = 1; carries(0, 0, 0, 1) = 1;
-            ends(0, 0, 0) = 0; opens(0, 0) = 1; ends(0, 0, 1) = 0; reader(0, 1, 1) = 0 // an aborted one's is gone
-            """);
+        for (int i = 0; i < 6; i++) {
+            String pair = i / 3 + ", " + i % 3;
+            String start = "begins(0) = 0; 3 * sends(0, 0, #, 0, 7) = 0; 3 * sends(0, 0, #, 1, 8) = 1; reads(" + pair
+                + ") = 7; opens(0, 0) = 1; carries(0, 0, " + pair + ") = 1; ";
+            // An aborted one's is gone
+            D.run(start + "ends(0, 0, 0) = 0; opens(0, 0) = 1; ends(0, 0, 1) = 0; reader(" + pair + ", 1) = 0");
+            D.run(start + "begins(0) = 1; opens(0, 1) = 1; ends(0, 1, 1) = 0; reader(" + pair + ", 1) = 0");
+            // So is a committed one's: what another has saved since then stays
+            D.run(start + "ends(0, 0, 1) = 0; reader(" + pair + ", 1) = 1; begins(1) = 0; opens(1, 0) = 1; reads(" + pair
+                + ") = 8; carries(1, 0, " + pair + ") = 2; ends(1, 0, 1) = 0; opens(0, 0) = 1; ends(0, 0, 1) = 0; reader("
+                + pair + ", 1) = 2");
+        }
     }
 
     private static void beginsWhenIdle() {

@@ -16,6 +16,7 @@ public final class EdgesOfLogsTest {
         numbersAndValues();
         belongs();
         plainWhenIdle();
+        messages();
         markers();
         reserve();
         reserveOfHanging();
@@ -172,6 +173,15 @@ public final class EdgesOfLogsTest {
             opens(0, 0) = 1; sends(0, 0, 0, 1, 11) = 1; entry(0, 0, 5) = 0; entry(0, 1, 5) = 1;
             ends(0, 0, 0) = 1; ticks(1) = 1; sends(0, 0, 0, 2, 12) = 3;
             entry(0, 0, 5) = 0; entry(0, 1, 5) = 3; entry(0, 2, 5) = NONE; entry(0, 3, 5) = 0; part(0, 2) = 2
+            """);
+    }
+
+    private static void messages() {
+        D.says(PLACE, "A message has a producer, the epoch of the producer when it wrote it");
+        D.run("""
+            100 * begins(3) = #; begins(0) = 0; sends(3, 99, 1, 0, 5) = 0; sends(0, 0, 1, 0, 5) = 1; begins(0) = 1;
+            sends(0, 1, 1, 0, 5) = 2; entry(1, 0, 1) = 3; entry(1, 0, 2) = 99; entry(1, 1, 1) = 0; entry(1, 1, 2) = 0;
+            entry(1, 2, 1) = 0; entry(1, 2, 2) = 1; 3 * entry(1, #, 0) = 0
             """);
     }
 

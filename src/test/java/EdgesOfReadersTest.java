@@ -26,15 +26,18 @@ public final class EdgesOfReadersTest {
         entryRange();
         entryProperties();
         entryFate();
+        entryVisible();
         partRange();
         partProperties();
         abortedRange();
+        abortedProperties();
         abortedNone();
         readsFirst();
         readsPast();
         readsNone();
         readsBad();
         rewindsReturns();
+        rewindsAll();
         rewindsBad();
         readerRange();
         readerProperties();
@@ -209,6 +212,16 @@ public final class EdgesOfReadersTest {
             """);
     }
 
+    private static void entryVisible() {
+        D.says("promise 10", "6 for 1 if it is a visible message, otherwise 0");
+        D.run("""
+            begins(0) = 0; begins(1) = 0; sends(0, 0, 2, 0, 5) = 0; entry(2, 0, 6) = 1; opens(1, 0) = 1;
+            sends(1, 0, 2, 0, 6) = 1; sends(0, 0, 2, 1, 7) = 2; entry(2, 0, 6) = 1; entry(2, 1, 6) = 0;
+            entry(2, 2, 6) = 0; ends(1, 0, 1) = 1; entry(2, 1, 6) = 0; entry(2, 2, 6) = 0; ticks(1) = 1;
+            3 * entry(2, #, 6) = 1; entry(2, 3, 6) = 0; back() = 5; entry(2, 0, 6) = 1; entry(2, 1, 6) = 0
+            """);
+    }
+
     private static void partRange() {
         D.says("promise 11", "Returns the property; BAD if there is no such partition or what is not 0 to 5.");
         D.run("""
@@ -237,6 +250,15 @@ public final class EdgesOfReadersTest {
             aborted(1, min, 0) = BAD; aborted(-1, 0, 0) = BAD; aborted(3, 0, 0) = BAD;
             aborted(1, 1, 3) = BAD; aborted(3, 1, 0) = BAD; aborted(0, 0, -1) = BAD; // BAD, not NONE
             told(0) = 11
+            """);
+    }
+
+    private static void abortedProperties() {
+        D.says("promise 12", "0 for its producer, 1 for its first position, 2 for the position of its marker");
+        D.run("""
+            begins(0) = 0; begins(3) = 0; 45 * sends(0, 0, 2, #, 5) = #; opens(3, 0) = 1; sends(3, 0, 2, 0, 5) = 45;
+            sends(0, 0, 2, 45, 5) = 46; ends(3, 0, 0) = 1; ticks(1) = 1; part(2, 0) = 48; part(2, 5) = 1;
+            aborted(2, 0, 0) = 3; aborted(2, 0, 1) = 45; aborted(2, 0, 2) = 47; aborted(2, 1, 0) = NONE
             """);
     }
 
@@ -303,6 +325,16 @@ public final class EdgesOfReadersTest {
             begins(0) = 0; 2 * sends(0, 0, 1, #, 5) = #; opens(0, 0) = 1; reads(0, 1) = 5; carries(0, 0, 0, 1) = 1;
             rewinds(0) = 1; ends(0, 0, 1) = 0; reader(0, 1, 0) = 0; rewinds(0) = 1; reader(0, 1, 0) = 1; // forwards
             rewinds(0) = 0; reads(0, 1) = 5; rewinds(0) = 1; reader(0, 1, 0) = 1
+            """);
+    }
+
+    private static void rewindsAll() {
+        D.says("promise 14", "Sets the positions of a consumer in all partitions to its saved positions.");
+        D.run("""
+            begins(0) = 0; 3 * sends(0, 0, #, 0, 5) = 0; 3 * sends(0, 0, #, 1, 6) = 1; 3 * reads(1, #) = 5;
+            opens(0, 0) = 1; carries(0, 0, 1, 0) = 1; carries(0, 0, 1, 2) = 1; ends(0, 0, 1) = 0; 3 * reads(1, #) = 6;
+            3 * reads(0, #) = 5; rewinds(1) = 3; reader(1, 0, 0) = 1; reader(1, 1, 0) = 0; reader(1, 2, 0) = 1;
+            reader(1, 0, 1) = 1; reader(1, 1, 1) = 0; reader(1, 2, 1) = 1; 3 * reader(0, #, 0) = 1; rewinds(1) = 0
             """);
     }
 

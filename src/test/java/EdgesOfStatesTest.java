@@ -20,6 +20,7 @@ public final class EdgesOfStatesTest {
         backToCarried();
         backOfDoes();
         backNone();
+        codes();
         firstErrorIsReturned();
         errorsChangeNothing();
         noneIsNoError();
@@ -31,6 +32,7 @@ public final class EdgesOfStatesTest {
         digestOfANewObject();
         digestOfEntries();
         digestChangesNothing();
+        last512Calls();
         D.end();
     }
 
@@ -152,6 +154,15 @@ public final class EdgesOfStatesTest {
     private static void backNone() {
         D.says("promise 21", "STATE if there is none.");
         D.run("back() = STATE; told(2) = 1; begins(0) = 0; back() = 0; back() = STATE; back() = STATE; told(2) = 3; told(6) = 0");
+    }
+
+    private static void codes() {
+        D.says("errors", "BAD (-2): an argument is out of range, or there is no such producer, partition or consumer.");
+        D.run("ticks(21) = -2; begins(4) = -2; part(3, 0) = -2; rewinds(2) = -2; told(0) = 4");
+        D.says("errors", "FENCED (-6): the epoch that is given is lower than that of the producer.");
+        D.run("begins(0) = 0; opens(0, 0) = 1; begins(0) = 1; opens(0, 0) = -6; opens(0, 1) = 1; ends(0, 0, 0) = -6; told(1) = 2");
+        D.says("errors", "STATE (-3), GAP (-7) and FULL (-4): as told at the methods.");
+        D.run("back() = -3; begins(0) = 0; sends(0, 0, 0, 1, 5) = -7; 120 * type(0); type(0) = -4; told(2) = 1; told(3) = 1; told(4) = 1");
     }
 
     private static void firstErrorIsReturned() {
@@ -320,5 +331,24 @@ public final class EdgesOfStatesTest {
             D.due("told(6)", x.told(6), y.told(6));
         }
         D.due("told(0)", x.told(0), 0);
+    }
+
+    private static void last512Calls() {
+        D.says("what it is", "An object is used for at most 512 calls after it has been made");
+        OnceLetters x = new OnceLetters();
+        for (int i = 1; i <= 511; i++) {
+            D.due("ticks(20)", x.ticks(20), 0);
+        }
+        D.due("the 512th call, all(0)", x.all(0), 511 * 20);
+        OnceLetters y = new OnceLetters();
+        for (int i = 1; i <= 511; i++) {
+            D.due("told(7)", y.told(7), -2);
+        }
+        D.due("the 512th call, told(0)", y.told(0), 511);
+        OnceLetters z = new OnceLetters();
+        for (int i = 1; i <= 511; i++) {
+            D.due("limit", z.limit(1 + i % 20), i == 1 ? 5 : 1 + (i - 1) % 20);
+        }
+        D.due("the 512th call, told(6)", z.told(6), 6);
     }
 }
