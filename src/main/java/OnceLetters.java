@@ -837,11 +837,11 @@ public final class OnceLetters {
                 return NONE;
             }
             int firstPlace = first[place];
-            if (firstPlace == NONE) {
+            if (outside(firstPlace, length)) {
                 return PLAIN;
             }
             int marker = mark[firstPlace];
-            if (marker == NONE) {
+            if (outside(marker, length)) {
                 return UNDECIDED;
             }
             return value[marker] == 1 ? COMMITTED : ABORTED;

@@ -26,7 +26,8 @@ final class Due {
         return text.replaceAll("\\s+", " ");
     }
 
-    private String document() {
+    /** The document, with one blank for each row of blanks and line ends. */
+    String document() {
         if (document.isEmpty()) {
             try {
                 document = inOneLine(Files.readString(DOCUMENT));

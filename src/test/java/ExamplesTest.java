@@ -1,4 +1,7 @@
-/** The three examples of the document, call by call. */
+import java.util.regex.Matcher;
+import java.util.regex.Pattern;
+
+/** The three examples of the document, call by call, and once more as they stand in ../shared/DOC.md. */
 public final class ExamplesTest {
     private static final Due D = new Due();
 
@@ -6,7 +9,24 @@ public final class ExamplesTest {
         committed();
         hanging();
         orders();
+        asTheyStand();
         D.end();
+    }
+
+    /** Run also checks what the document says of all calls: what each of them changes, and that back() undoes it. */
+    private static void asTheyStand() {
+        D.about("the examples of DOC.md");
+        Matcher m = Pattern.compile("Examples: .*? 1\\. (.*?) 2\\. (.*?) 3\\. (.*?)\\. The constructor").matcher(D.document());
+        D.holds("three examples are found", m.find());
+        int[] calls = {16, 16, 16};
+        for (int i = 0; i < calls.length; i++) {
+            D.about("example " + (i + 1) + " of DOC.md");
+            String example = m.group(i + 1).replaceAll("\\.$", "");
+            String run = example.substring(example.indexOf(": ") + 2);
+            D.due("its calls", run.split(";").length, calls[i]);
+            D.due("its answers", run.split(" = ").length - 1, calls[i]);
+            D.run(run);
+        }
     }
 
     private static void committed() {
